@@ -646,7 +646,12 @@ public final class EachMayMissOne {
     }
 
     private static int firstOf(int those) {
-        return those == 0 ? NONE : Integer.numberOfTrailingZeros(those);
+        for (int i = 0; i < MOST_BELLS; i++) {
+            if (bit(those, i) == 1) {
+                return i;
+            }
+        }
+        return NONE;
     }
 
     private static int put(int tired) {
@@ -1609,6 +1614,8 @@ public final class EachMayMissOne {
         final int[][] best = new int[PLANNED + 1][SETS];
         // By rounds gone and naps had (two bits a ringer): which sets may have been the latest, as bits.
         final int[][] latest = new int[PLANNED + 1][NAPS];
+        // By rounds gone and the set that misses next: behind which latest sets it may, as bits.
+        final int[][] before = new int[PLANNED][1 << NAPPING];
         int enough;
 
         void prepare(Tower tower, int[] ahead, int now, int n) {
@@ -1692,6 +1699,11 @@ public final class EachMayMissOne {
             for (int k = 0; k <= n; k++) {
                 Arrays.fill(latest[k], 0);
             }
+            for (int k = 1; k < n; k++) {
+                for (int j = 0; j < many[k]; j++) {
+                    before[k][sets[k][j]] = setsBefore(k, sets[k][j]);
+                }
+            }
             for (int j = 0; j < many[0]; j++) {
                 int those = sets[0][j];
                 if (mayFollow(0, those, live.who, live.where)) {
@@ -1700,22 +1712,29 @@ public final class EachMayMissOne {
             }
         }
 
+        /** The sets of the round ahead of k behind which those may miss, as bits. */
+        private int setsBefore(int k, int those) {
+            int all = 0;
+            for (int j = 0; j < many[k - 1]; j++) {
+                int who = sets[k - 1][j];
+                all |= mayFollow(k, those, who, where[k - 1][who]) ? 1 << who : 0;
+            }
+            return all;
+        }
+
         /** From all that can be had behind k rounds: all that can be had behind one more. */
         private void widen(int k) {
             for (int naps = 0; naps < NAPS; naps++) {
-                for (int j = 0; j < many[k - 1] && latest[k][naps] != 0; j++) {
-                    int who = sets[k - 1][j];
-                    if (bit(latest[k][naps], who) == 1) {
-                        widenFrom(k, naps, who);
-                    }
+                if (latest[k][naps] != 0) {
+                    widenFrom(k, naps);
                 }
             }
         }
 
-        private void widenFrom(int k, int naps, int who) {
+        private void widenFrom(int k, int naps) {
             for (int j = 0; j < many[k]; j++) {
                 int those = sets[k][j];
-                if (mayFollow(k, those, who, where[k - 1][who])) {
+                if ((latest[k][naps] & before[k][those]) != 0) {
                     latest[k + 1][napsWith(naps, those)] |= 1 << those;
                 }
             }
@@ -1728,22 +1747,32 @@ public final class EachMayMissOne {
             }
             for (int k = m - 1; k >= 1; k--) {
                 for (int naps = 0; naps < NAPS; naps++) {
-                    for (int j = 0; j < many[k - 1] && latest[k][naps] != 0; j++) {
-                        int who = sets[k - 1][j];
-                        if (nextSet(k, naps, who, where[k - 1][who]) == NONE) {
-                            latest[k][naps] &= ~(1 << who);
-                        }
+                    if (latest[k][naps] != 0) {
+                        latest[k][naps] &= leadingOn(k, naps);
                     }
                 }
             }
+        }
+
+        /** The sets of the round ahead of k from which a set for round k still leads on, as bits. */
+        private int leadingOn(int k, int naps) {
+            int all = 0;
+            for (int j = 0; j < many[k]; j++) {
+                int those = sets[k][j];
+                all |= leadsOn(k, naps, those) ? before[k][those] : 0;
+            }
+            return all;
+        }
+
+        private boolean leadsOn(int k, int naps, int those) {
+            return bit(latest[k + 1][napsWith(naps, those)], those) == 1;
         }
 
         /** The least set for round k that still leads on; NONE, if there is none. */
         private int nextSet(int k, int naps, int who, int places) {
             for (int j = 0; j < many[k]; j++) {
                 int those = sets[k][j];
-                boolean leadsOn = bit(latest[k + 1][napsWith(naps, those)], those) == 1;
-                if (leadsOn && mayFollow(k, those, who, places)) {
+                if (mayFollow(k, those, who, places) && leadsOn(k, naps, those)) {
                     return those;
                 }
             }

@@ -172,6 +172,8 @@ public final class PromiseTests {
         }
         tellTower("1234567");
         Due.is("seven bells", x.count(0), 7);
+        x.sheet(2, 7, 99, 0);
+        x.round(3);
         method("1.2");
         rule("3");
         x.set(0, 2);
@@ -460,6 +462,8 @@ public final class PromiseTests {
         Due.is("(4): bell 1 is where 0 was", x.may(2), 4);
         Due.is("(3) ahead of (4)", x.may(6), 3);
         Due.is("(2) ahead of (3)", x.may(3), 2);
+        tellTower("911");
+        Due.is("ringer 0 may be the tenor", x.may(1), 5);
         tellTower("995");
         x.set(0, 3);
         Due.is("the last of equals is the tenor", x.count(7), 1);
@@ -476,6 +480,9 @@ public final class PromiseTests {
         Due.is("no rounds", x.rounds(0), 0);
         Due.row("no rounds", x, 0, 0);
         Due.is("no rounds can't be undone", x.count(11), 0);
+        x.rounds(1);
+        Due.is("one can", x.undo(), 0);
+        Due.is("and is", x.count(2), 0);
         Due.is("three rounds", x.rounds(3), 9);
         Due.row("three rounds", x, 7, 3);
         Due.is("drifts", x.count(4), 9);
@@ -543,8 +550,8 @@ public final class PromiseTests {
         begin("2461234", "x");
         tellKnownRow();
         String[] wrong = {";", "-;", "--", "-a", "a-", "aa", "abca", "h", "abcdefgh", "abcdefga", "r", "rx", "r123", "r1a", "!", "!h", "!1",
-            "!ab", "ra", "R1", "-;;-", "a;b;bb", "r;-", "- "};
-        int[] p = {0, 2, 1, 1, 1, 1, 3, 0, 7, 7, 1, 1, 3, 2, 1, 1, 1, 2, 1, 0, 2, 5, 1, 1};
+            "!ab", "ra", "R1", "-;;-", "a;b;bb", "r;-", "- ", "r:", "r1:", "r/"};
+        int[] p = {0, 2, 1, 1, 1, 1, 3, 0, 7, 7, 1, 1, 3, 2, 1, 1, 1, 2, 1, 0, 2, 5, 1, 1, 1, 2, 1};
         for (int i = 0; i < wrong.length; i++) {
             at("night " + wrong[i], night(wrong[i]), p[i]);
             known("nothing is done", x.count(2), 0);
@@ -552,6 +559,15 @@ public final class PromiseTests {
         Due.is("seven letters", night("gfedcba"), 1);
         Due.row("seven letters", x, 0, 1, 0);
         Due.is("all slept", x.count(5), 7);
+        Due.is("all again, and nine more", night("abcdefg;r9;r09"), 3);
+        Due.row("the death in this night alone", x, 0, 1, x.count(4));
+        Due.is("rounds", x.count(2), 20);
+        x.sheet(2, 7, 99, 0);
+        int drifts = x.count(4);
+        Due.is("one is less tired", night("!c;-"), 2);
+        Due.row("one drifts not", x, 0, 0, 6);
+        Due.is("drifts", x.count(4), drifts + 6);
+        Due.is("tired", x.ringer(2, 1), 89 + 4);
     }
 
     private static void undo() {
@@ -630,6 +646,8 @@ public final class PromiseTests {
         Due.is("an order stays", x.truth(), 1);
         Due.row("an order stays", x, 0);
         Due.is("lead", x.lead(), 4);
+        begin("246", "123");
+        Due.is("it stays at the only change", x.lead(), 1);
         begin("246", "x.123");
         Due.is("it stays behind one", x.truth(), 2);
         Due.row("it stays behind one", x, 1);
@@ -808,6 +826,9 @@ public final class PromiseTests {
         Due.is("0 missed", x.rivals(0, 1, 60), 0);
         Due.row("0 missed", x, 2);
         Due.is("1 ahead of 0", x.rivals(1, 0, 60), 60);
+        Due.is("the tenor is the other: in 2, 4, .., 14", x.rivals(1, 3, 60), 13);
+        Due.is("the tenor begins: in 1, 3, 5, 7", x.rivals(3, 1, 60), 6);
+        Due.is("1 ahead of 0 once more", x.rivals(1, 0, 60), 60);
         int[][] wrong = {{0, 0, 5}, {0, 5, 5}, {5, 0, 5}, {-1, 0, 5}, {0, -1, 5}, {0, 1, 0}, {0, 1, 61}};
         for (int[] w : wrong) {
             Due.is("rivals", x.rivals(w[0], w[1], w[2]), -1);
@@ -878,6 +899,7 @@ public final class PromiseTests {
         Due.is("once", x.naps(1, 12), 3);
         Due.row("once", x, 1, 4, 2);
         Due.is("in two", x.naps(1, 2), -2);
+        Due.is("in one", x.naps(1, 1), -2);
         Due.row("the row stays", x, 1, 4, 2);
         begin("11111", "12345");
         x.set(0, 3);
@@ -1157,6 +1179,8 @@ public final class PromiseTests {
         x.sheet(2, 3, 60, -10);
         Due.is("drifts of old don't count", x.weariest(0), 0);
         Due.row("drifts of old don't count", x, 60, 0);
+        Due.is("new ones do", x.weariest(2), 1);
+        Due.row("new ones do", x, 99, 2);
     }
 
     private static void coughs() {
@@ -1187,8 +1211,22 @@ public final class PromiseTests {
         Due.is("nobody", x.coughs(1, 1, 3), 0);
         Due.row("nobody", x, 0, -1, 0);
         x.sheet(2, 7, 99, 0);
+        x.round(3);
+        x.round(3);
+        x.rounds(1);
+        x.sheet(2, 7, 99, 0);
+        Due.is("deaths of old don't count", x.coughs(1, 1, 3), 0);
+        Due.row("nor naps, drifts of old", x, 7, -1, 0);
+        // from seed 2: 33676 % 10 = 6
+        Due.is("the tenor at 3", x.coughs(2, 1, 3), 0);
+        Due.row("the tenor at 3", x, 6, 6, 1);
+        int first = 0;
+        while (((first * 1103515245 + 12345) >>> 16) % 10 != 0) {
+            first++;
+        }
+        x.coughs(first, 1, 3);
+        Due.row("the first ringer", x, 6, 0, 1);
         x.coughs(1, 1, 3);
-        Due.row("all drift", x, 7, -1, 0);
         int[][] wrong = {{1, 0, 1}, {1, 61, 1}, {1, 1, 0}, {1, 1, 10}, {1, -1, 1}};
         for (int[] w : wrong) {
             Due.is("coughs", x.coughs(w[0], w[1], w[2]), -1);

@@ -1329,20 +1329,14 @@ public final class EachMayMissOne {
                     state.slept[i]++;
                     state.tired[i] = Math.max(0, state.tired[i] - rest);
                 } else {
-                    pull(state, i, missing);
+                    int tired = state.tired[i] + moreTired(state, i, missing);
+                    state.drifted |= tired > MOST_TIRED ? 1 << i : 0;
+                    state.drifts[i] += tired > MOST_TIRED ? 1 : 0;
+                    state.tired[i] = Math.min(MOST_TIRED, tired);
                 }
             }
             state.goOn(those, placesOf(state.order, those), changes.next(state.order, bells, state.now));
             return part;
-        }
-
-        private void pull(State state, int ringer, int missing) {
-            int tired = state.tired[ringer] + moreTired(state, ringer, missing);
-            if (tired > MOST_TIRED) {
-                state.drifts[ringer]++;
-                state.drifted |= 1 << ringer;
-            }
-            state.tired[ringer] = Math.min(MOST_TIRED, tired);
         }
 
         /** Of those that may miss alone the one with the greatest tired, as a set. */

@@ -1428,7 +1428,8 @@ public final class EachMayMissOne {
         static final int ROUND = 0;
         static final int ROUNDS = 1;
         static final int BEER = 2;
-        static final int MOST = 40;
+        static final int MOST_SIGNS = 60;
+        static final int MOST = (MOST_SIGNS + 1) / 2;
 
         final int[] kinds = new int[MOST];
         final int[] values = new int[MOST];
@@ -1444,7 +1445,7 @@ public final class EachMayMissOne {
                     many = 0;
                     return p;
                 }
-                int sign = text.at(p, Text.MOST);
+                int sign = text.at(p, MOST_SIGNS);
                 if (sign == Text.END) {
                     return many;
                 }
@@ -1460,7 +1461,7 @@ public final class EachMayMissOne {
 
         /** Reads an act at p: where it ends, or which sign can't stand. */
         private int readAct(Text text, int p) {
-            int sign = text.at(p, Text.MOST);
+            int sign = text.at(p, MOST_SIGNS);
             if (sign == '-') {
                 write(ROUND, 0);
                 return p + 1;
@@ -1469,7 +1470,7 @@ public final class EachMayMissOne {
                 return readRounds(text, p + 1);
             }
             if (sign == '!') {
-                int ringer = text.at(p + 1, Text.MOST) - 'a';
+                int ringer = text.at(p + 1, MOST_SIGNS) - 'a';
                 write(BEER, ringer);
                 return isLetter(ringer) ? p + 2 : cannotStand(p + 1);
             }
@@ -1480,7 +1481,7 @@ public final class EachMayMissOne {
             int number = 0;
             int next = p;
             for (int i = 0; i < 2; i++) {
-                int digit = text.at(next, Text.MOST) - '0';
+                int digit = text.at(next, MOST_SIGNS) - '0';
                 if (digit >= 0 && digit <= 9) {
                     number = number * 10 + digit;
                     next++;
@@ -1493,14 +1494,14 @@ public final class EachMayMissOne {
         private int readMissing(Text text, int p) {
             int those = 0;
             int next = p;
-            int ringer = text.at(next, Text.MOST) - 'a';
-            while (next < Text.MOST && isLetter(ringer)) {
+            int ringer = text.at(next, MOST_SIGNS) - 'a';
+            while (next < MOST_SIGNS && isLetter(ringer)) {
                 if (bit(those, ringer) == 1) {
                     return cannotStand(next);
                 }
                 those |= 1 << ringer;
                 next++;
-                ringer = text.at(next, Text.MOST) - 'a';
+                ringer = text.at(next, MOST_SIGNS) - 'a';
             }
             write(ROUND, those);
             return next > p ? next : cannotStand(p);

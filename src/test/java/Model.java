@@ -477,7 +477,7 @@ final class Model {
         if (!t.isEmpty()) {
             int p = wrongAt(t, whole, s -> {
                 String last = s.substring(s.lastIndexOf(';') + 1);
-                return last.chars().distinct().count() == last.length() || last.startsWith("r");
+                return s.length() <= 60 && (last.chars().distinct().count() == last.length() || last.startsWith("r"));
             });
             if (p >= 0) {
                 return -1 - p;

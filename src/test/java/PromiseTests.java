@@ -23,6 +23,7 @@ public final class PromiseTests {
         beer();
         night();
         nightSigns();
+        nightLength();
         undo();
         order();
         truthAndLead();
@@ -541,9 +542,8 @@ public final class PromiseTests {
         Due.is("a beer to none", night("!d"), 0);
         Due.row("a beer to none", x, 1, 0, 0);
         Due.is("beer counts", x.count(11), 4);
-        Due.is("forty acts", night("-" + ";-".repeat(39)), 40);
-        Due.row("forty acts", x, 0, 0, x.row(2));
-        at("forty acts and ;", night("-" + ";-".repeat(39) + ";"), 80);
+        Due.is("thirty acts", night("-" + ";-".repeat(29)), 30);
+        Due.row("thirty acts", x, 0, 0, x.row(2));
     }
 
     private static void nightSigns() {
@@ -568,6 +568,32 @@ public final class PromiseTests {
         Due.row("one drifts not", x, 0, 0, 6);
         Due.is("drifts", x.count(4), drifts + 6);
         Due.is("tired", x.ringer(2, 1), 89 + 4);
+    }
+
+    private static void nightLength() {
+        begin("246", "x");
+        String sixty = "r1;".repeat(19) + "r01";
+        String open = "a;".repeat(30);
+        Due.is("60 signs", night(sixty), 20);
+        Due.is("all rung", x.count(2), 20);
+        tellKnownRow();
+        int past = x.count(11);
+        at("61 signs, the first 60 could end", night(sixty + ";"), 60);
+        at("61 signs, the last one wrong", night(sixty + "z"), 60);
+        at("61 signs, a second digit", night("ab;".repeat(18) + "a;a;r1" + "2"), 60);
+        at("60 signs, the last a ;", night(open), 60);
+        at("61 signs, the first 60 could go on", night(open + "a"), 60);
+        at("80 signs", night("a;".repeat(40)), 60);
+        at("60 signs, the last an r", night("-;".repeat(29) + "-r"), 59);
+        at("an r, and its number too late", night("ab;".repeat(19) + "a;r" + "12"), 60);
+        at("a !, and its letter too late", night("ab;".repeat(19) + "a;!" + "a"), 60);
+        at("a letter too late", night("ab;".repeat(19) + "a;b" + "c"), 60);
+        at("a letter told already, too late", night("ab;".repeat(19) + "a;b" + "b"), 60);
+        at("more than 60, one of them wrong", night("ab;".repeat(19) + "a;;" + "ab"), 59);
+        at("more than 60, one told already", night("ab;".repeat(19) + "aba" + ";a"), 59);
+        at("more than 60, the first wrong", night(";".repeat(80)), 0);
+        known("nothing is done", x.count(2), 20);
+        known("nothing more to undo", x.count(11), past);
     }
 
     private static void undo() {

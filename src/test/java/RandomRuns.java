@@ -149,7 +149,7 @@ public final class RandomRuns {
 
     private String acts() {
         StringBuilder s = new StringBuilder();
-        int n = random.nextInt(7);
+        int n = random.nextInt(random.nextInt(4) == 0 ? 36 : 7);
         for (int i = 0; i < n; i++) {
             s.append(i == 0 ? "" : ";");
             switch (random.nextInt(4)) {

@@ -125,7 +125,8 @@ public final class HeardSentences {
             "lasts = -2", "rule '99*(r=0)'", "lasts = 1 : 1");
         Script.says("36: (of equal ones the first", "tower '246'", "method '123'", "sheet 2 3 97 0", "rule '3*(i=0)*(r=0)'", "lasts = -2",
             "rule '3*(i=1)*(r=0)'", "lasts = 1 : 2");
-        Script.says("36: nobody, if none may)", "tower '246'", "method '123'", "rounds 6", "round 3", "sheet 2 3 99 0", "lasts = 1 : 7");
+        Script.says("36: nobody, if none may)", "tower '246'", "method '123'", "rounds 6", "round 3", "sheet 2 3 99 0", "lasts = 1 : 7",
+            "rule '9*m*(r=7)'", "lasts = -2");
         Script.says("36: -2: .. no BELLS", "lasts = -2");
     }
 

@@ -198,6 +198,8 @@ public final class OrderSentences {
             "naps 1 12 = 4 : 0 1 4 2", "tower '24681'", "set 0 2", "round 5", "naps 1 12 = 4 : 0 5 16 10", "tower '24681'",
             "method 'x.1'", "round 9", "naps 1 12 = 4 : 0 6 16 9", "sleeps 3 = 4 : 16 1 6", "tower '2468'", "round 4",
             "naps 1 12 = 4 : 0 5 0 10", "sleeps 3 = 3 : 1 0 5");
+        Script.says("28: .. and ahead of a ROUND in which the TENOR may not", "tower '246'", "method 'x.123.12'", "rounds 6",
+            "naps 1 12 = 3 : 4 1 2");
     }
 
     private static void napsRefused() {
